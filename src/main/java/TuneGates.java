@@ -855,15 +855,8 @@ public final class TuneGates {
             if (lines[sort] >= LINES_AT_MOST[sort]) {
                 return fail(MANY);
             }
-            step();
-            if (!readRestOf(sort)) {
-                return false;
-            }
             lines[sort]++;
-            return true;
-        }
-
-        private boolean readRestOf(int sort) {
+            step();
             switch (sort) {
                 case TURNPIKE: return readTurnpike();
                 case TUNE: return readTune();
@@ -1045,12 +1038,12 @@ public final class TuneGates {
             if (!isName()) {
                 return fail(FORM);
             }
-            if (nameHere() >= 0) {
+            if (placeOfWord(names, named) >= 0) {
                 return fail(AGAIN);
             }
             names[named] = word;
             nameSorts[named] = sort;
-            nameNumbers[named] = lines[sort];
+            nameNumbers[named] = lines[sort] - 1;
             named++;
             step();
             return true;
@@ -1070,7 +1063,7 @@ public final class TuneGates {
                 fail(FORM);
                 return NONE;
             }
-            int name = nameHere();
+            int name = placeOfWord(names, named);
             if (name < 0 || nameSorts[name] != sort) {
                 fail(UNTOLD);
                 return NONE;
@@ -1086,10 +1079,6 @@ public final class TuneGates {
             return token == WORD && (meaning < 0 || meaning >= SORTS);
         }
 
-        private int nameHere() {
-            return placeOfWord(names, named);
-        }
-
         private void step() {
             at = after;
             while (at < end && tape[at] == ' ') {
@@ -1100,6 +1089,7 @@ public final class TuneGates {
                 token = END;
             } else if (tape[at] >= 'a' && tape[at] <= 'z') {
                 takeLetters();
+                meaning = placeOfWord(meanings, MEANINGS);
             } else if (tape[at] >= '0' && tape[at] <= '9') {
                 takeDigits();
             } else {
@@ -1111,11 +1101,10 @@ public final class TuneGates {
         private void takeLetters() {
             word = 0;
             while (after < end && tape[after] >= 'a' && tape[after] <= 'z') {
-                word = withLetter(word, tape[after]);
+                word = word * 32 + (tape[after] - 'a' + 1);
                 after++;
             }
             token = after - at <= LETTERS ? WORD : NO_TOKEN;
-            meaning = placeOfWord(meanings, MEANINGS);
         }
 
         private void takeDigits() {
@@ -1136,16 +1125,13 @@ public final class TuneGates {
             return NONE;
         }
 
+        /** As takeLetters has it: no two WORDS have one number. */
         private static long asNumber(String text) {
             long number = 0;
             for (int i = 0; i < text.length(); i++) {
-                number = withLetter(number, text.charAt(i));
+                number = number * 32 + (text.charAt(i) - 'a' + 1);
             }
             return number;
-        }
-
-        private static long withLetter(long number, int letter) {
-            return number * 32 + (letter - 'a' + 1);
         }
     }
 
@@ -1505,9 +1491,9 @@ public final class TuneGates {
             needed = withoutInner(road, tunes);
             findOverlaps(road);
             // Downwards each set comes behind all that have more tunes.
-            for (int begun = needed; begun > 0; begun = begun - 1 & needed) {
+            for (int begun = needed; begun > 0; begun--) {
                 for (int last = 0; last < road.tunes; last++) {
-                    if ((begun >> last & 1) == 1) {
+                    if ((begun & ~needed) == 0 && (begun >> last & 1) == 1) {
                         chooseNext(road, begun, last);
                     }
                 }

@@ -107,7 +107,29 @@ public final class TextTest {
         Check.due("the acts stay", z.size(10), 1);
         Check.due("the marks stay", z.size(11), 1);
         Check.due("the road stays", z.road(0, 1), 5);
-        Check.fine(z, "the first bytes alone", Check.read(z, "turnpike rain 8;place z"), 1);
+        firstBytesAlone();
+    }
+
+    private static void firstBytesAlone() {
+        String text = "turnpike rain 12;place abc;place ab;gate #";
+        for (int n = 22; n <= text.length(); n++) {
+            TuneGates x = new TuneGates();
+            Check.feed(x, text);
+            boolean good = n >= 24 && n <= 26 || n == 34 || n == 35;
+            int places = x.turnpike(n);
+            Check.due("the first " + n + " bytes have a place", places > 0, good);
+            Check.due("nothing of the tape is left behind them", x.size(12), 0);
+        }
+        TuneGates y = new TuneGates();
+        Check.feed(y, "turnpike rain 100;place aaaa");
+        Check.refused(y, "a number cut off", y.turnpike(15), 4);
+        Check.due("and no place", y.fault(), 6);
+        Check.due("at the end", y.where(), 15);
+        Check.feed(y, "turnpike rain 5;place a;place b;road a b minutes 990");
+        Check.fine(y, "the number's first digits", y.turnpike(51), 2);
+        Check.due("are the number", y.road(0, 1), 99);
+        Check.feed(y, "turnpike rain 5;place abcdefghi");
+        Check.fine(y, "the name's first letters", y.turnpike(30), 1);
     }
 
     private static void faultAndWhere() {
