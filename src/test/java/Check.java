@@ -4,6 +4,7 @@ import java.nio.charset.StandardCharsets;
 final class Check {
     private static int asked = 0;
     private static int wrong = 0;
+    private static String topic = "";
 
     private Check() {
     }
@@ -12,8 +13,17 @@ final class Check {
         asked++;
         if (got != want) {
             wrong++;
-            System.out.println(what + " answered " + got + ", due is " + want);
+            System.out.println(topic + what + " answered " + got + ", due is " + want);
         }
+    }
+
+    /** What all wrong answers from now on are told with. */
+    static void about(String subject) {
+        topic = subject + ": ";
+    }
+
+    static int asked() {
+        return asked;
     }
 
     static void due(String what, boolean got, boolean want) {

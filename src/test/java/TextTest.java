@@ -18,7 +18,7 @@ public final class TextTest {
     }
 
     /** The text's FAULT stands where the sign ^ is (it is taken out); the old ROAD stays. */
-    private static void fault(String marked, int number) {
+    static void fault(String marked, int number) {
         int at = marked.indexOf('^');
         String text = marked.substring(0, at) + marked.substring(at + 1);
         TuneGates x = Check.told("turnpike rain 77;place only");
@@ -29,7 +29,7 @@ public final class TextTest {
         Check.due("the tape is empty by " + marked, x.size(12), 0);
     }
 
-    private static void good(String text, int places) {
+    static void good(String text, int places) {
         TuneGates x = new TuneGates();
         Check.fine(x, text, Check.read(x, text), places);
         Check.due("fault of " + text, x.fault(), 0);
