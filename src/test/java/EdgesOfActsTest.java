@@ -272,6 +272,11 @@ public final class EdgesOfActsTest {
         x = ALL.inRain().allows("not", y -> y.rain(false));
         Check.due("it doesn't", x.size(9), 0);
         Check.due("two ACTS", x.size(10), 2);
+        x = ALL.after(y -> y.go(3, 0)).allows("rain alone changes", y -> y.rain(true));
+        person(x, 0, 0, 7, 0, 0, 0);
+        person(x, 3, 0, 6, 2, 0, 99);
+        x = ALL.inRain().does(99, "who goes leaves the rain", y -> y.go(3, 0));
+        Check.due("it rains still", x.size(9), 1);
         ALL.denies(5, "it doesn't, at first", y -> y.rain(false));
         ALL.inRain().denies(5, "it does", y -> y.rain(true));
         ALL.inRain().after(TuneGates::undo).denies(5, "it doesn't, undone", y -> y.rain(false));

@@ -333,6 +333,19 @@ public final class EdgesOfFaultsTest {
         Check.feed(x, "turnpike rain 5;place a;place b");
         Check.refused(x, "none of its bytes", x.turnpike(0), 4);
         Check.due("it is empty behind that", x.size(12), 0);
+        String cut = "turnpike rain 100;place abc;place b;road abc b minutes 990";
+        for (int n = 15; n <= 17; n++) {
+            Check.feed(x, cut);
+            Check.refused(x, "a WHOLE cut off, and no place", x.turnpike(n), 4);
+            Check.due("no FORM, as 1 and 10 are WHOLES, too", x.fault(), 6);
+            Check.due("at the end", x.where(), n);
+        }
+        Check.feed(x, cut);
+        Check.fine(x, "a name cut off", x.turnpike(25), 1);
+        Check.feed(x, cut);
+        Check.fine(x, "a WHOLE cut off", x.turnpike(cut.length() - 1), 2);
+        Check.due("is what stands there", x.road(0, 1), 99);
+        onlyTheLatest();
         Sentence.is("(no RAIN; nothing to undo, no MARKS): how many places.");
         TuneGates y = moved();
         Check.fine(y, "a ROAD anew", Check.read(y, BASE + PERSON), 2);
@@ -344,6 +357,35 @@ public final class EdgesOfFaultsTest {
         Check.due("he is where it is told", y.person(0, 0), 0);
         Check.due("no minutes", y.person(0, 4), 0);
         Check.fine(y, "a MARK is the first again", y.mark(), 0);
+    }
+
+    /** Nothing of an earlier text is in the ROAD, be it one that was read or one with a FAULT. */
+    private static void onlyTheLatest() {
+        TuneGates x = new TuneGates();
+        String bare = "turnpike rain 0;place z;person v at z coins 0";
+        for (String ahead : new String[] {EdgesOfTextTest.full(), EdgesOfTextTest.full() + ";#", BASE + PERSON + ";#"}) {
+            for (int time = 0; time < 2; time++) {
+                Check.read(x, ahead);
+                Check.fine(x, "a ROAD of one place", Check.read(x, bare), 1);
+                int[] sizes = {0, 0, 1, 0, 0, 0, 1, 0, 0, 0, 0, 0, 0};
+                for (int what = 0; what < sizes.length; what++) {
+                    Check.due("size " + what, x.size(what), sizes[what]);
+                }
+                for (int what = 0; what < 5; what++) {
+                    Check.due("person " + what, x.person(0, what), 0);
+                }
+                Check.fine(x, "rows", x.rows(), 1);
+                Check.fine(x, "reach", x.reach(0), 1);
+            }
+        }
+        TuneGates y = new TuneGates();
+        for (int time = 0; time < 4; time++) {
+            Check.read(y, BASE + ";gate a b strict t;person q at b coins 0;person p at b coins 0;knows p t;heard t");
+            Check.fine(y, "as told, each time", y.rows() * 100 + y.person(1, 2) * 10 + y.person(0, 2), 210);
+            Check.fine(y, "nothing is told again", Check.read(y, BASE), 2);
+            Check.fine(y, "without the gate", y.gate(0, 1, 0), -2);
+            Check.fine(y, "without what was heard", y.rows(), 2);
+        }
     }
 
     /** He is at b in rain, by two ACTS, with a MARK. */

@@ -209,6 +209,7 @@ public final class EdgesOfInnsAndDaysTest {
         Scene two = Scene.of("turnpike rain 0" + LINE);
         two.tells(0, "no day", x -> x.roamed(0, 0, 0));
         two.tells(90, "each day", x -> x.roamed(0, 65536, 90));
+        two.after(x -> x.roamed(0, 65536, 90)).tells(1, "counted anew", x -> x.roamed(0, 65536, 1));
         for (int bad : new int[] {-1, 91, Integer.MAX_VALUE, Integer.MIN_VALUE}) {
             two.refuses(2, "days " + bad, x -> x.roamed(0, 0, bad));
             ROADLESS.refuses(2, "a number comes ahead of no road " + bad, x -> x.roamed(0, 0, bad));
@@ -233,6 +234,7 @@ public final class EdgesOfInnsAndDaysTest {
         two.tells(0, "on none of one", x -> x.roamsTo(0, 0, 65536, 1));
         two.tells(0, "on none of none", x -> x.roamsTo(0, 0, 65536, 0));
         two.tells(0, "on none of all", x -> x.roamsTo(0, 2, 65536, 90));
+        two.after(x -> x.roamsTo(0, 1, 65536, 90)).tells(2, "counted anew", x -> x.roamsTo(0, 0, 65536, 90));
         Scene far = Scene.of("turnpike rain 0;place a;place b;place c;road b c minutes 1;person x at a coins 0");
         far.tells(1, "who goes nowhere is there behind the first", x -> x.roamsTo(0, 0, 65536, 90));
         for (int bad : new int[] {-1, 91, Integer.MAX_VALUE, Integer.MIN_VALUE}) {

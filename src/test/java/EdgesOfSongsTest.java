@@ -47,6 +47,9 @@ public final class EdgesOfSongsTest {
         all("bc ab", "abc");
         all("ab ab ab ab ab ab", "ab");
         all("ab abc cabcd", "cabcd");
+        all("cabcd abc ab", "cabcd");
+        all("abcde bcd", "abcde");
+        all("abcde bcd eg", "abcdeg");
         all("abc cab abca", "abcab");
         all("ag gb bf fc ce ed", "agbfced");
         all("aaaaaaaa bbbbbbbb cccccccc dddddddd eeeeeeee ffffffff",
@@ -109,6 +112,8 @@ public final class EdgesOfSongsTest {
         paired("aa ab ba bb", 2, 3, 2, 1, 0);
         paired("aa ab ac bd", 1, 3, -2, -2, 0);
         paired("aaa bb cc dd", 1, -2, 2, 1, -2);
+        // The first goes with the second or the fourth, the third with the fourth or the fifth.
+        paired("ggaaaa bbgggb gcgccc dddgdg egeegg", 2, 1, 0, 3, 2, -2);
     }
 
     private static void song() {
@@ -143,8 +148,9 @@ public final class EdgesOfSongsTest {
         }
         two.after(x -> x.song(3)).refuses(1, "note of one, behind the song of both", x -> x.songAt(2, 2));
         two.after(x -> x.song(1)).tells(2, "note of both, behind the song of one", x -> x.songAt(3, 2));
-        two.after(x -> Check.read(x, "turnpike rain 0;place a;tune k ff;tune l gg")).tells(6, "of the ROAD from now on",
-            x -> x.songAt(3, 3));
+        Scene anew = two.after(x -> x.song(3)).after(x -> Check.read(x, "turnpike rain 0;place a;tune k ff;tune l gg"));
+        sung(anew, 3, "ffgg");
+        sung(anew.after(x -> x.song(3)), 2, "gg");
         BARE.refuses(1, "without tunes", x -> x.songAt(1, 0));
         NOWHERE.refuses(1, "without a ROAD", x -> x.songAt(1, 0));
     }
@@ -207,8 +213,9 @@ public final class EdgesOfSongsTest {
         tunes("aa aa aa bb bb bb").tells(3, "three and three", x -> x.pairs());
         tunes("aa aa aa aa bb bb").tells(2, "four and two", x -> x.pairs());
         NOWHERE.refuses(1, "without a ROAD", x -> x.pairs());
-        tunes("aa bb").after(x -> Check.read(x, "turnpike rain 0;place a;tune k ff")).tells(0, "of the ROAD from now on",
-            x -> x.pairs());
+        Scene anew = tunes("aa bb").after(x -> Check.read(x, "turnpike rain 0;place a;tune k ff;tune l ff"));
+        anew.tells(0, "of the ROAD from now on", x -> x.pairs());
+        anew.tells(-2, "partner of the ROAD from now on", x -> x.partner(0));
     }
 
     private static void partner() {

@@ -80,6 +80,11 @@ public final class EdgesOfStrangerTest {
         found(Scene.of(fork + ";heard l;heard k"), 3, 0, 1, 28, 2, 1);
         // from one of three by b to one of three: the first and the last are alike, so the first
         found(Scene.of(fork + ";heard l;heard l"), 9 + 3, 0, 3, 30, 30, 30);
+        // a b e, a c e, a d e: the one between tells all
+        found(Scene.of("turnpike rain 0;tune k ab;tune l ab;place a;place b;place c;place d;place e;road a b minutes 1"
+            + ";road a c minutes 1;road a d minutes 1;road b e minutes 1;road c e minutes 1;road d e minutes 1"
+            + ";gate a b deaf k;gate a c deaf k;gate a d deaf k;gate b e deaf l;gate c e deaf l;gate d e deaf l"
+            + ";heard k;heard l"), 3, 1, 1, 1, 14, 16);
         // a b, and back: a b a b, b a b a
         found(Scene.of(fork + ";heard k;heard k;heard k"), 2, 0, 1, 3, 3, 3, 3);
         // a b c b a, ..: the middle one tells all
@@ -100,6 +105,12 @@ public final class EdgesOfStrangerTest {
         NOWHERE.refuses(1, "without a ROAD", x -> x.rows());
         heard("kkk").after(x -> Check.read(x, "turnpike rain 0;place a;place b")).tells(2, "of the ROAD from now on",
             x -> x.rows());
+        found(heard("kl").after(x -> Check.read(x, ROADS + ";heard k;heard l")), 4, 0, 2, 13, 14, 14);
+        found(heard("kkkkk").after(x -> Check.read(x, ROADS + ";heard m;heard m")), 0, -2, -2, 0, 0, 0);
+        // Seven places, of which the first and the last have a gate between them.
+        Scene seven = Scene.of("turnpike rain 0;tune k ab;place a;place b;place c;place d;place e;place f;place g"
+            + ";road a g minutes 1;gate g a deaf k;heard k;heard k");
+        found(seven, 2, 0, 1, 65, 65, 65);
     }
 
     private static void could() {
@@ -161,7 +172,10 @@ public final class EdgesOfStrangerTest {
         both.after(x -> x.buy(0, 1)).after(TuneGates::undo).tells(2, "not by what is undone", x -> x.suspect());
         both.after(x -> x.teach(2, 0, 1)).tells(0, "by what he was taught", x -> x.suspect());
         Scene.of(people + ";heard l;heard l;heard l;heard l;heard l").tells(2, "one tune", x -> x.suspect());
+        both.after(x -> x.buy(1, 1)).tells(2, "not by one of two", x -> x.suspect());
+        Scene.of(people + ";heard l").after(x -> x.buy(1, 1)).tells(1, "who knows that one alone", x -> x.suspect());
         Scene.of(people).tells(0, "nothing heard", x -> x.suspect());
+        Scene.of(ROADS + ";person u at a coins 0").tells(0, "nothing heard, nothing known", x -> x.suspect());
         Scene.of(people + ";heard m").tells(-2, "nobody", x -> x.suspect());
         Scene.of(people + ";heard k;heard l;heard m").tells(-2, "nobody all", x -> x.suspect());
         Scene.of(ROADS).tells(-2, "without people", x -> x.suspect());

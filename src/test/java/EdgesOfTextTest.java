@@ -69,6 +69,10 @@ public final class EdgesOfTextTest {
         Check.due("a text of all bytes", text.length(), 1000);
         good(text, 2);
         fault(head + " ".repeat(999 - head.length()) + "^#", 1);
+        String digits = "turnpike rain 5;place a;person p at a coins ";
+        good(digits + " ".repeat(997 - digits.length()) + "999", 1);
+        fault(digits + " ".repeat(996 - digits.length()) + "^9999", 1);
+        fault(head + " ".repeat(991 - head.length()) + "^abcdefghi", 1);
         fault(head + " ".repeat(1000 - head.length()) + "^", 1);
         TuneGates x = new TuneGates();
         Check.feed(x, text);
@@ -266,14 +270,15 @@ public final class EdgesOfTextTest {
     /** Every sort of LINE as often as it may be, on all of THE TAPE. */
     static String full() {
         String text = "turnpike rain 50;" + String.join(";", each("tune *", "k ab", "l abc", "m cd", "n abcdefga", "o ga",
-            "p efg")) + ";" + String.join(";", each("place *", "a", "b", "c", "d", "e", "f", "g"));
-        String[] ends = {"a b", "b c", "c d", "d e", "e f", "f g", "g a", "a c", "a d", "a e"};
-        text += ";" + String.join(";", each("road * minutes 9", ends));
-        text += ";" + String.join(";", each("gate * kind k", ends));
+            "p abcdefgb")) + ";" + String.join(";", each("place *", "a", "b", "c", "d", "e", "f", "g"));
+        text += ";" + String.join(";", each("road * minutes 9", "a b", "b c", "c d", "d e", "e f", "f g", "g a", "a c",
+            "a d", "a e"));
+        text += ";" + String.join(";", each("gate *", "a b strict k", "b c kind p", "c d deaf k", "d e strict p",
+            "e f forgot k", "f g strict p", "g a kind k", "a c deaf p", "a d strict k", "a e strict p"));
         text += ";" + String.join(";", each("inn a sells * price 9", "k", "l", "m", "n", "o", "p"));
         text += ";" + String.join(";", each("person * at a coins 50", "w", "x", "y", "z"));
         text += ";" + String.join(";", each("knows *", "w k", "w l", "x k", "x l", "y k", "y l", "z k", "z l"));
-        text += ";" + String.join(";", each("heard *", "k", "k", "k", "k", "k"));
+        text += ";" + String.join(";", each("heard *", "k", "p", "k", "p", "k"));
         return text;
     }
 
@@ -286,6 +291,10 @@ public final class EdgesOfTextTest {
         for (int what = 0; what < sizes.length; what++) {
             Check.due("size " + what, x.size(what), sizes[what]);
         }
+        Naive model = new Naive(text);
+        NaiveTest.compareAll(x, model);
+        model.rains = x.rain(true);
+        NaiveTest.compareAll(x, model);
         for (String sort : NO_NAMES) {
             int number = sort.equals("turnpike") ? 3 : sort.equals("gate") ? 1 : 5;
             fault(full() + (number == 1 ? ";gate ^" : ";^" + sort), number);

@@ -199,11 +199,15 @@ public final class EdgesOfWaysTest {
     private static void reach() {
         Sentence.is("Places to which one has a WAY, as bits. NONE: 1.");
         LONG.tells(127, "all", x -> x.reach(0));
+        LONG.tells(127, "all from the other end", x -> x.reach(1));
         ALONE.tells(1, "one alone", x -> x.reach(0));
         Scene one = Scene.of(GATES + ";person x at a coins 0;person y at d coins 0;knows x k");
         one.tells(3, "by his tune", x -> x.reach(0));
         one.inRain().tells(1, "in rain", x -> x.reach(0));
         one.tells(8, "where no road is", x -> x.reach(1));
+        Scene idle = Scene.of(GATES + ";person x at a coins 0;person y at b coins 0");
+        idle.tells(1, "who knows nothing", x -> x.reach(0));
+        idle.tells(2, "who knows nothing, between gates", x -> x.reach(1));
         for (int none : Scene.outside(2)) {
             LONG.refuses(1, "reach of " + none, x -> x.reach(none));
             LONG.refuses(1, "reachIf of " + none, x -> x.reachIf(none, false));
@@ -219,6 +223,9 @@ public final class EdgesOfWaysTest {
             each.tells(1, "if it rained", x -> x.reachIf(0, true));
             each.tells(3, "if not", x -> x.reachIf(0, false));
         }
+        LONG.tells(127, "all from the other end", x -> x.reachIf(1, true));
+        Scene idle = Scene.of(GATES + ";person x at a coins 0");
+        idle.tells(1, "who knows nothing", x -> x.reachIf(0, false));
         BARE.refuses(1, "without people", x -> x.reachIf(0, true));
         NOWHERE.refuses(1, "without a ROAD", x -> x.reachIf(0, false));
     }
@@ -240,6 +247,10 @@ public final class EdgesOfWaysTest {
         Scene idle = Scene.of(GATES + ";person x at d coins 0");
         idle.tells(-2, "none by any", x -> x.bestTune(0));
         ALONE.tells(-2, "without tunes", x -> x.bestTune(0));
+        // By ac one would come to both places, but the only such one is the first tune forged.
+        Scene six = Scene.of("turnpike rain 0;tune k ab;tune l bc;tune m ad;tune n abc;tune o abc;tune p abc;place a;place b"
+            + ";place c;road a b minutes 1;road a c minutes 1;gate a b kind l;gate a c kind m;person x at a coins 0");
+        six.tells(0, "of six tunes", x -> x.bestTune(0));
         for (int none : Scene.outside(1)) {
             one.refuses(1, "bestTune of " + none, x -> x.bestTune(none));
         }
@@ -287,6 +298,10 @@ public final class EdgesOfWaysTest {
         either.tells(7, "both", x -> x.farReach(2));
         either.after(x -> x.buy(0, 0)).tells(3, "one bought", x -> x.farReach(0));
         either.inRain().tells(3, "in rain", x -> x.farReach(0));
+        LONG.tells(127, "all from the other end", x -> x.farReach(1));
+        Scene elsewhere = Scene.of(GATES + ";person x at d coins 0;person y at b coins 9;inn b sells l price 9");
+        elsewhere.tells(8, "where no road is", x -> x.farReach(0));
+        elsewhere.tells(6, "not to the first place", x -> x.farReach(1));
         for (int none : Scene.outside(3)) {
             either.refuses(1, "farReach of " + none, x -> x.farReach(none));
         }

@@ -151,7 +151,7 @@ public final class NaiveTest {
 
     // ---- answers
 
-    private static void compareAll(TuneGates x, Naive model) {
+    static void compareAll(TuneGates x, Naive model) {
         compareSizes(x, model);
         compareRoads(x, model);
         comparePeople(x, model);
