@@ -33,13 +33,13 @@ public final class NaiveTest {
         Check.end("NaiveTest");
     }
 
-    private static int any(int below) {
+    static int any(int below) {
         return RANDOM.nextInt(below);
     }
 
     // ---- texts
 
-    private static String text() {
+    static String text() {
         List<String> lines = new ArrayList<>();
         int tunes = any(7);
         int places = 1 + any(7);
@@ -104,7 +104,7 @@ public final class NaiveTest {
     }
 
     /** A token is left out, doubled, changed for another, or a byte is. */
-    private static String slipped(String text) {
+    static String slipped(String text) {
         List<String> tokens = new ArrayList<>(Arrays.asList(text.replace(";", " ; ").trim().split(" +")));
         String[] others = {"turnpike", "tune", "place", "road", "gate", "inn", "person", "knows", "heard", "rain", "strict",
             "sells", "price", "at", "pa", "pb", "ta", "tb", "xa", "xb", "zz", ";", "0", "100", "101", "999", "1000",
@@ -322,7 +322,7 @@ public final class NaiveTest {
         model.rains = rows.get(model.people.size())[0] == 1;
     }
 
-    private static void acts(TuneGates x, Naive model) {
+    static void acts(TuneGates x, Naive model) {
         ArrayDeque<List<int[]>> kept = new ArrayDeque<>();
         List<List<int[]>> marks = new ArrayList<>();
         for (int call = 0; call < 150; call++) {
